@@ -57,7 +57,6 @@ public final class HairpinLocks {
         script = new Script(tape);
         hairReader = new HairReader(script);
         ordersReader = new OrdersReader(script);
-        lawReader = new LawReader(script);
         doors = new Doors();
         town = new Town();
         kept = new Town();
@@ -66,6 +65,7 @@ public final class HairpinLocks {
         reach = new Reach();
         lawNow = new Law();
         lawSpare = new Law();
+        lawReader = new LawReader(script, lawSpare);
         isKept = false;
     }
 
@@ -777,8 +777,9 @@ public final class HairpinLocks {
         final Script script;
         Law law;
 
-        LawReader(Script script) {
+        LawReader(Script script, Law law) {
             this.script = script;
+            this.law = law;
         }
 
         void read(Law into) {
@@ -982,25 +983,22 @@ public final class HairpinLocks {
         }
 
         boolean isAnyTrue(int letter, int[] known) {
-            return firstTrue(letter, known) != NONE;
+            for (int i = 0; i < rules && i < MOST_RULES; i++) {
+                if (letters[i] == letter && reckon(conditions[i], ends[i], known) != 0) {
+                    return true;
+                }
+            }
+            return false;
         }
 
         int amountOf(int letter, int most, int[] known) {
-            int rule = firstTrue(letter, known);
-            if (!isWithin(rule, 0, MOST_RULES - 1)) {
-                return 0;
-            }
-            int amount = reckon(amounts[rule], conditions[rule], known);
-            return Math.max(0, Math.min(most, amount));
-        }
-
-        private int firstTrue(int letter, int[] known) {
             for (int i = 0; i < rules && i < MOST_RULES; i++) {
                 if (letters[i] == letter && reckon(conditions[i], ends[i], known) != 0) {
-                    return i;
+                    int amount = reckon(amounts[i], conditions[i], known);
+                    return Math.max(0, Math.min(most, amount));
                 }
             }
-            return NONE;
+            return 0;
         }
 
         /** What is refused answers 0: as a condition that does not hold, as an amount 0. */
@@ -1454,8 +1452,9 @@ public final class HairpinLocks {
 
         private void goOn(int way) {
             int here = rooms[placeOf(way)];
+            int free = freeKinds(way);
             for (int k = 0; k < KINDS; k++) {
-                int there = (freeKinds(way) >> k & 1) != 0 ? roomsNextTo(here, k) : 0;
+                int there = (free >> k & 1) != 0 ? roomsNextTo(here, k) : 0;
                 if (there != 0) {
                     int further = way + (1 << 3 * k) + (1 << ALL_SHIFT);
                     int place = placeOf(further);
@@ -1583,9 +1582,10 @@ public final class HairpinLocks {
         private static boolean couldBe(Tape tape, int n, int combination) {
             for (int i = 0; i < n; i++) {
                 int first = GUESS_BYTES * i;
-                int right = rightOnes(tape, first, combination);
-                int elsewhere = sharedOnes(tape, first, combination) - right;
-                if (tape.at(first + CURLS) != right || tape.at(first + CURLS + 1) != elsewhere) {
+                int right = tape.at(first + CURLS);
+                int elsewhere = tape.at(first + CURLS + 1);
+                if (rightOnes(tape, first, combination) != right
+                        || sharedOnes(tape, first, combination) != right + elsewhere) {
                     return false;
                 }
             }
@@ -1707,8 +1707,8 @@ public final class HairpinLocks {
                 return CANNOT;
             }
             int share = sum / DAYS;
-            int fewest = Integer.MAX_VALUE;
-            for (int still = 0; still < DAYS; still++) {
+            int fewest = stepsFrom(tape, 0, share);
+            for (int still = 1; still < DAYS; still++) {
                 fewest = Math.min(fewest, stepsFrom(tape, still, share));
             }
             return fewest;
