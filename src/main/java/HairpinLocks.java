@@ -1009,15 +1009,14 @@ public final class HairpinLocks {
                 int sign = signs[at];
                 int value = values[at];
                 at++;
-                if (top >= stack.length || top < operands(sign)) {
+                if (sign == NUMBER || sign == LETTER) {
+                    if (top >= stack.length) {
+                        return 0;
+                    }
+                    stack[top] = sign == NUMBER ? value : letterValue(value, known);
+                    top++;
+                } else if (top < 1) {
                     return 0;
-                }
-                if (sign == NUMBER) {
-                    stack[top] = value;
-                    top++;
-                } else if (sign == LETTER) {
-                    stack[top] = isWithin(value, 0, known.length - 1) ? known[value] : 0;
-                    top++;
                 } else if (sign == '!') {
                     stack[top - 1] = 1 - stack[top - 1];
                 } else if (sign == '&' || sign == '|') {
@@ -1028,7 +1027,8 @@ public final class HairpinLocks {
                     }
                 } else {
                     int right = stack[top - 1];
-                    if (right == 0 && (sign == '/' || sign == '%')) {
+                    boolean isRefused = right == 0 && (sign == '/' || sign == '%');
+                    if (isRefused || top < 2) {
                         return 0;
                     }
                     stack[top - 2] = joined(sign, stack[top - 2], right);
@@ -1038,11 +1038,8 @@ public final class HairpinLocks {
             return top > 0 ? stack[top - 1] : 0;
         }
 
-        private static int operands(int sign) {
-            if (sign == NUMBER || sign == LETTER) {
-                return 0;
-            }
-            return sign == '!' || sign == '&' || sign == '|' ? 1 : 2;
+        private static int letterValue(int letter, int[] known) {
+            return letter >= 0 && letter < known.length ? known[letter] : 0;
         }
 
         private static int joined(int sign, int left, int right) {
