@@ -586,29 +586,23 @@ public final class HairpinLocks {
         }
     }
 
-    /** Reads HAIR. */
+    /** Reads HAIR as if its rounds were written out, as those ahead of a round count towards the 60, too. */
     private static final class HairReader {
         static final int DEEPEST = 2;
         final Script script;
         final int[] pins = new int[KINDS];
-        final int[] levels = new int[(DEEPEST + 1) * KINDS];
-        final int[] sums = new int[DEEPEST + 1];
+        final int[] ahead = new int[DEEPEST * KINDS];
 
         HairReader(Script script) {
             this.script = script;
         }
 
         void read() {
+            Arrays.fill(pins, 0);
             readPins(0);
-            System.arraycopy(levels, 0, pins, 0, KINDS);
         }
 
         private void readPins(int depth) {
-            if (depth < 0 || depth > DEEPEST) {
-                return;
-            }
-            sums[depth] = 0;
-            Arrays.fill(levels, depth * KINDS, (depth + 1) * KINDS, 0);
             for (int items = 0; items <= HAIR_BYTES && script.isSound(); items++) {
                 if (items > 0 && endsHere(depth)) {
                     return;
@@ -629,34 +623,39 @@ public final class HairpinLocks {
                 script.place++;
             }
             if (isWithin(script.sign(), 'a', 'f')) {
-                add(depth, script.sign() - 'a', times);
+                pins[script.sign() - 'a'] += times;
                 script.place++;
             } else if (script.sign() == '(') {
                 readGroup(depth, times);
             } else {
                 script.fail(CANT_STAND, script.place);
             }
-            if (sums[depth] > MOST_PINS) {
+            if (pinsSoFar() > MOST_PINS) {
                 script.fail(TOO_MANY_PINS, first);
             }
         }
 
+        /** Inside a round its pins stand there once; the other times come when it ends. */
         private void readGroup(int depth, int times) {
-            if (depth >= DEEPEST) {
+            if (depth < 0 || depth >= DEEPEST) {
                 script.fail(TOO_DEEP, script.place);
                 return;
             }
             script.place++;
+            System.arraycopy(pins, 0, ahead, depth * KINDS, KINDS);
             readPins(depth + 1);
             script.want(')');
             for (int k = 0; k < KINDS && script.isSound(); k++) {
-                add(depth, k, times * levels[(depth + 1) * KINDS + k]);
+                pins[k] += (times - 1) * (pins[k] - ahead[depth * KINDS + k]);
             }
         }
 
-        private void add(int depth, int k, int many) {
-            levels[depth * KINDS + k] += many;
-            sums[depth] += many;
+        private int pinsSoFar() {
+            int sum = 0;
+            for (int k = 0; k < KINDS; k++) {
+                sum += pins[k];
+            }
+            return sum;
         }
     }
 

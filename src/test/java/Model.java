@@ -100,16 +100,16 @@ public final class Model {
     return -1000 * number - place;
   }
 
-  // ---- hair: a stack of levels, each with its own pins so far
+  // ---- hair: all pins are written out one by one, a round's once more each time when it ends
 
   public int hair(int w, int n) {
     if (!isWoman(w) || !in(n, 1, 60) || tape.size() < n) {
       return -1;
     }
     String s = takeText(n);
-    List<int[]> levels = new ArrayList<>();
+    StringBuilder out = new StringBuilder();
+    // Of each round that is open: the place of its first byte, how many times, the pins ahead of it.
     List<int[]> opened = new ArrayList<>();
-    levels.add(new int[6]);
     int start = 0;
     int times = 0;
     boolean empty = true;
@@ -118,45 +118,39 @@ public final class Model {
       if (times == 0) {
         start = i;
       }
-      int[] ended = null;
       int many = times == 0 ? 1 : times;
       if (oneOf("23456789", c) && times == 0) {
         times = c - '0';
         continue;
       } else if (oneOf("abcdef", c)) {
-        ended = new int[6];
-        ended[c - 'a'] = 1;
+        out.append(String.valueOf(c).repeat(many));
       } else if (c == '(') {
-        if (levels.size() == 3) {
+        if (opened.size() == 2) {
           return fault(5, i);
         }
-        opened.add(new int[] {start, many});
-        levels.add(new int[6]);
+        opened.add(new int[] {start, many, out.length()});
         empty = true;
         times = 0;
         continue;
-      } else if (c == ')' && times == 0 && !empty && levels.size() > 1) {
-        ended = levels.remove(levels.size() - 1);
+      } else if (c == ')' && times == 0 && !empty && !opened.isEmpty()) {
         int[] o = opened.remove(opened.size() - 1);
         start = o[0];
-        many = o[1];
-      } else if (i == s.length() && times == 0 && !empty && levels.size() == 1) {
+        out.append(out.substring(o[2]).repeat(o[1] - 1));
+      } else if (i == s.length() && times == 0 && !empty && opened.isEmpty()) {
         break;
       } else {
         return fault(1, i);
       }
-      int[] level = levels.get(levels.size() - 1);
-      for (int k = 0; k < 6; k++) {
-        level[k] += many * ended[k];
-      }
-      if (Arrays.stream(level).sum() > 60) {
+      if (out.length() > 60) {
         return fault(6, start);
       }
       times = 0;
       empty = false;
     }
-    now.women[w].hair = levels.get(0).clone();
-    now.women[w].pins = levels.get(0).clone();
+    int[] pins = new int[6];
+    out.chars().forEach(c -> pins[c - 'a']++);
+    now.women[w].hair = pins.clone();
+    now.women[w].pins = pins;
     return now.women[w].all();
   }
 

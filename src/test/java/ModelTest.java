@@ -164,6 +164,10 @@ public final class ModelTest {
 
   private String hairText(int depth) {
     StringBuilder sb = new StringBuilder();
+    if (depth == 0 && oneIn(3)) {
+      // Near the 60, so that a pin or a round behind these is often one too many.
+      sb.append("9a9b9c9d9e9f".substring(2 * below(4)));
+    }
     for (int i = 1 + below(4); i > 0; i--) {
       if (oneIn(2)) {
         sb.append(one(oneIn(3) ? "23456789" : "234"));

@@ -89,11 +89,38 @@ public final class TextsTest {
     due.hairIs("2(4(8a))", -6000);
     due.hairIs("2(" + times("9a", 7) + ")", -6014);
     due.hairIs("2(" + times("9a", 4) + ")", -6000);
-    // Of a ( its own pins are asked first, then, when it ends, those with what stands ahead of it.
-    due.hairIs(times("9a", 6) + "(9a)", -6012);
-    due.hairIs(times("9a", 6) + "(9a", -1015);
-    due.hairIs(times("9a", 6) + "2(ab(2c))", -6012);
+    hairTooManyInARound();
     due.is("all stays", due.x.womanIs(0, 20), 54);
+  }
+
+  /** Those ahead of a round count inside it, too; its own stand there once until it ends. */
+  private static void hairTooManyInARound() {
+    due.hairIs(times("9a", 5) + "(9b9b)", -6013);
+    due.hairIs(times("9a", 6) + "(9a)", -6013);
+    due.hairIs(times("9a", 6) + "(9a", -6013);
+    due.hairIs(times("9a", 6) + "(9x", -1014);
+    due.hairIs(times("9a", 6) + "(6b)", 60);
+    due.hairIs(times("9a", 6) + "(6b)c", -6016);
+    due.hairIs(times("9a", 6) + "(6bc)", -6015);
+    due.hairIs(times("9a", 6) + "2(3b)", 60);
+    due.hairIs(times("9a", 6) + "2(4b)", -6012);
+    due.hairIs(times("9a", 6) + "2(4b", -1016);
+    due.hairIs(times("9a", 6) + "2(7b)", -6014);
+    due.hairIs(times("9a", 6) + "2(ab(2c))", -6012);
+    due.hairIs(times("9a", 6) + "(ab2(2c))", 60);
+    due.hairIs(times("9a", 6) + "(ab2(2c)d)", -6020);
+    due.hairIs(times("9a", 6) + "(ab3(2c))", -6015);
+    due.hairIs(times("9a", 6) + "(ab(5c))", -6016);
+    due.hairIs(times("9a", 6) + "((((", -5014);
+    due.hairIs("9a(9b9b(9c9c9d))", 54);
+    due.hairIs("9a(9b9b(9c9c9d9e))", -6014);
+    due.hairIs("9a2(9b(9c9c))", -6002);
+    due.hairIs("9a2(9b3(9c))9e", -6002);
+    due.hairIs("9a2(2b3(4c))9e9f", 55);
+    due.is("c in both rounds", due.x.womanIs(0, 22), 24);
+    due.is("b in one", due.x.womanIs(0, 21), 4);
+    due.is("a ahead of them", due.x.womanIs(0, 20), 9);
+    due.hairIs(times("9a", 6), 54);
   }
 
   private static void hairRefused() {
