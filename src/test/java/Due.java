@@ -1,8 +1,24 @@
 /** A town under test: calls by texts instead of tapes, and a count of the answers that are not as due. */
 final class Due {
+  private static final long MOST_MILLIS = 120_000;
   private int wrong;
   private int asked;
   HairpinLocks x = new HairpinLocks();
+
+  /** A call that fails to end is a fault like any other, so the test must not wait for it. */
+  Due() {
+    Thread watch = new Thread(() -> {
+      try {
+        Thread.sleep(MOST_MILLIS);
+      } catch (InterruptedException e) {
+        return;
+      }
+      System.out.println("a call failed to end");
+      Runtime.getRuntime().halt(1);
+    });
+    watch.setDaemon(true);
+    watch.start();
+  }
 
   void anew() {
     x = new HairpinLocks();

@@ -58,6 +58,10 @@ public final class ModelTest {
   }
 
   private boolean call(Map<String, Map<Object, Integer>> seen, String name, Integer... args) throws Exception {
+    if (calls == CALLS) {
+      // What an object answers behind its 512th call is free.
+      return true;
+    }
     calls++;
     Object got = ONE.get(name).invoke(locks, (Object[]) args);
     Object due = OTHER.get(name).invoke(model, (Object[]) args);
