@@ -173,7 +173,7 @@ public final class HairpinLocks {
             return town.pinsOf(w);
         }
         if (isWithin(what, 10, 10 + KINDS - 1)) {
-            return town.pins[w * KINDS + what - 10];
+            return town.pinsOfKind(w, what - 10);
         }
         if (isWithin(what, 20, 20 + KINDS - 1)) {
             return town.hair[w * KINDS + what - 20];
@@ -436,7 +436,7 @@ public final class HairpinLocks {
             int bound = 0;
             for (int k = 0; k < KINDS; k++) {
                 if ((set >> k & 1) == 0) {
-                    bound += town.pins[w * KINDS + k];
+                    bound += town.pinsOfKind(w, k);
                 }
             }
             for (int d = 0; d < DOORS; d++) {
@@ -511,6 +511,7 @@ public final class HairpinLocks {
         final Tape tape;
         int end;
         int place;
+        int sign;
         int fault;
 
         Script(Tape tape) {
@@ -519,8 +520,15 @@ public final class HairpinLocks {
 
         void open(int n) {
             end = n;
-            place = 0;
             fault = 0;
+            place = -1;
+            step();
+        }
+
+        void step() {
+            place++;
+            boolean isThere = place >= 0 && place < end && place < tape.size && place < tape.bytes.length;
+            sign = isThere ? tape.bytes[place] : END;
         }
 
         boolean isSound() {
@@ -531,12 +539,8 @@ public final class HairpinLocks {
             return place >= end;
         }
 
-        int sign() {
-            return place < end ? tape.at(place) : END;
-        }
-
         boolean isDigit() {
-            return isWithin(sign(), '0', '9');
+            return sign >= '0' && sign <= '9';
         }
 
         void fail(int number, int where) {
@@ -546,20 +550,24 @@ public final class HairpinLocks {
         }
 
         boolean take(int wanted) {
-            if (fault != 0 || sign() != wanted) {
+            if (fault != 0 || sign != wanted) {
                 return false;
             }
-            place++;
+            step();
             return true;
         }
 
         void want(int wanted) {
-            if (!take(wanted)) {
+            if (sign != wanted) {
                 fail(CANT_STAND, place);
+            } else if (fault == 0) {
+                step();
             }
         }
 
-        int number(int mostDigits) {
+        /** The number's height is asked when it has ended, so a digit too many comes ahead of it. */
+        int number(int mostDigits, int most) {
+            int first = place;
             int value = 0;
             if (!isDigit()) {
                 fail(CANT_STAND, place);
@@ -568,17 +576,10 @@ public final class HairpinLocks {
                 if (digits == mostDigits) {
                     fail(DIGIT_TOO_MANY, place);
                 } else {
-                    value = 10 * value + sign() - '0';
-                    place++;
+                    value = 10 * value + sign - '0';
+                    step();
                 }
             }
-            return value;
-        }
-
-        /** The number's height is asked when it has ended, so a digit too many comes ahead of it. */
-        int numberUpTo(int most) {
-            int first = place;
-            int value = number(2);
             if (value > most) {
                 fail(NUMBER_TOO_HIGH, first);
             }
@@ -612,20 +613,20 @@ public final class HairpinLocks {
         }
 
         private boolean endsHere(int depth) {
-            return depth == 0 ? script.isAtEnd() : script.sign() == ')';
+            return depth == 0 ? script.isAtEnd() : script.sign == ')';
         }
 
         private void readItem(int depth) {
             int first = script.place;
             int times = 1;
-            if (isWithin(script.sign(), '2', '9')) {
-                times = script.sign() - '0';
-                script.place++;
+            if (isWithin(script.sign, '2', '9')) {
+                times = script.sign - '0';
+                script.step();
             }
-            if (isWithin(script.sign(), 'a', 'f')) {
-                pins[script.sign() - 'a'] += times;
-                script.place++;
-            } else if (script.sign() == '(') {
+            if (isWithin(script.sign, 'a', 'f')) {
+                pins[script.sign - 'a'] += times;
+                script.step();
+            } else if (script.sign == '(') {
                 readGroup(depth, times);
             } else {
                 script.fail(CANT_STAND, script.place);
@@ -641,7 +642,7 @@ public final class HairpinLocks {
                 script.fail(TOO_DEEP, script.place);
                 return;
             }
-            script.place++;
+            script.step();
             System.arraycopy(pins, 0, ahead, depth * KINDS, KINDS);
             readPins(depth + 1);
             script.want(')');
@@ -665,6 +666,7 @@ public final class HairpinLocks {
         static final int BAR = 1;
         static final int UNBAR = 2;
         static final int BEND = 3;
+        static final int MOST_DIGITS = 2;
         final Script script;
         final int[] sorts = new int[MOST_LINES];
         final int[] numbers = new int[MOST_LINES];
@@ -691,7 +693,7 @@ public final class HairpinLocks {
         }
 
         private void readLine() {
-            boolean isKind = isWithin(script.sign(), 'a', 'f');
+            boolean isKind = isWithin(script.sign, 'a', 'f');
             if (!isKind && !script.isDigit()) {
                 script.fail(CANT_STAND, script.place);
             } else if (lines >= MOST_LINES) {
@@ -708,17 +710,17 @@ public final class HairpinLocks {
 
         private void readKind() {
             sorts[lines] = BEND;
-            numbers[lines] = script.sign() - 'a';
-            script.place++;
+            numbers[lines] = script.sign - 'a';
+            script.step();
             script.want('=');
             if (script.isSound()) {
-                values[lines] = script.numberUpTo(MOST_PRONGS);
+                values[lines] = script.number(MOST_DIGITS, MOST_PRONGS);
             }
         }
 
         private void readDoor() {
             int first = script.place;
-            int d = script.numberUpTo(DOORS - 1);
+            int d = script.number(MOST_DIGITS, DOORS - 1);
             numbers[lines] = d;
             if (!script.isSound()) {
                 return;
@@ -727,9 +729,9 @@ public final class HairpinLocks {
                 sorts[lines] = TELL;
                 readRooms();
                 told |= 1 << d;
-            } else if (script.sign() == '!' || script.sign() == '?') {
-                sorts[lines] = script.sign() == '!' ? BAR : UNBAR;
-                script.place++;
+            } else if (script.sign == '!' || script.sign == '?') {
+                sorts[lines] = script.sign == '!' ? BAR : UNBAR;
+                script.step();
                 if ((told >> d & 1) == 0) {
                     script.fail(DOOR_NOT_TOLD, first);
                 }
@@ -739,18 +741,18 @@ public final class HairpinLocks {
         }
 
         private void readRooms() {
-            ones[lines] = script.numberUpTo(ROOMS - 1);
+            ones[lines] = script.number(MOST_DIGITS, ROOMS - 1);
             script.want('-');
             int second = script.place;
             if (script.isSound()) {
-                others[lines] = script.numberUpTo(ROOMS - 1);
+                others[lines] = script.number(MOST_DIGITS, ROOMS - 1);
             }
             if (script.isSound() && ones[lines] == others[lines]) {
                 script.fail(ROOM_AND_ITSELF, second);
             }
             script.want('=');
             if (script.isSound()) {
-                values[lines] = script.numberUpTo(MOST_PRONGS);
+                values[lines] = script.number(MOST_DIGITS, MOST_PRONGS);
             }
         }
 
@@ -773,6 +775,8 @@ public final class HairpinLocks {
     /** Reads THE LAW and writes it down as rows of steps. */
     private static final class LawReader {
         static final int MOST_OPEN = 6;
+        static final int MOST_DIGITS = 5;
+        static final int MOST_NUMBER = 99999;
         final Script script;
         Law law;
 
@@ -794,7 +798,7 @@ public final class HairpinLocks {
         }
 
         private void readRule() {
-            int letter = script.sign();
+            int letter = script.sign;
             if (letter != 'e' && letter != 'j' && letter != 'x') {
                 script.fail(CANT_STAND, script.place);
                 return;
@@ -803,7 +807,7 @@ public final class HairpinLocks {
                 script.fail(ONE_TOO_MANY, script.place);
                 return;
             }
-            script.place++;
+            script.step();
             int amount = law.size;
             if (letter != 'x') {
                 readSum(0);
@@ -821,7 +825,7 @@ public final class HairpinLocks {
                 script.fail(TOO_DEEP, script.place);
                 return false;
             }
-            script.place++;
+            script.step();
             return true;
         }
 
@@ -850,43 +854,38 @@ public final class HairpinLocks {
         }
 
         private void readTest(int open) {
-            int sign = script.sign();
-            if (sign == '!') {
+            if (script.sign == '!') {
                 if (mayOpen(open)) {
                     readTest(open + 1);
                     law.add('!', 0);
                 }
-            } else if (sign == '(') {
+            } else if (script.sign == '(') {
                 if (mayOpen(open)) {
                     readChoice(open + 1);
                     script.want(')');
                 }
             } else {
                 readSum(open);
-                readComparison(open);
-            }
-        }
-
-        private void readComparison(int open) {
-            int sign = script.sign();
-            if (sign != '<' && sign != '>' && sign != '=') {
-                script.fail(CANT_STAND, script.place);
-            }
-            if (script.isSound()) {
-                script.place++;
-                readSum(open);
-                law.add(sign, 0);
+                int sign = script.sign;
+                if (sign != '<' && sign != '>' && sign != '=') {
+                    script.fail(CANT_STAND, script.place);
+                }
+                if (script.isSound()) {
+                    script.step();
+                    readSum(open);
+                    law.add(sign, 0);
+                }
             }
         }
 
         private void readSum(int open) {
             readTerm(open);
             for (int i = 0; i < LAW_BYTES && script.isSound(); i++) {
-                int sign = script.sign();
+                int sign = script.sign;
                 if (sign != '+' && sign != '-') {
                     return;
                 }
-                script.place++;
+                script.step();
                 readTerm(open);
                 law.add(sign, 0);
             }
@@ -895,28 +894,28 @@ public final class HairpinLocks {
         private void readTerm(int open) {
             readFactor(open);
             for (int i = 0; i < LAW_BYTES && script.isSound(); i++) {
-                int sign = script.sign();
+                int sign = script.sign;
                 if (sign != '*' && sign != '/' && sign != '%') {
                     return;
                 }
-                script.place++;
+                script.step();
                 readFactor(open);
                 law.add(sign, 0);
             }
         }
 
         private void readFactor(int open) {
-            int letter = Law.letterAt(script.sign());
-            if (script.sign() == '[') {
+            int letter = Law.letterAt(script.sign);
+            if (script.sign == '[') {
                 if (mayOpen(open)) {
                     readSum(open + 1);
                     script.want(']');
                 }
             } else if (letter != NONE) {
                 law.add(Law.LETTER, letter);
-                script.place++;
+                script.step();
             } else {
-                law.add(Law.NUMBER, script.number(5));
+                law.add(Law.NUMBER, script.number(MOST_DIGITS, MOST_NUMBER));
             }
         }
     }
@@ -1249,6 +1248,16 @@ public final class HairpinLocks {
             return isTold(w) ? rooms[w] : NONE;
         }
 
+        int pinsOfKind(int w, int k) {
+            return isTold(w) && isWithin(k, 0, KINDS - 1) ? pins[w * KINDS + k] : 0;
+        }
+
+        void takePin(int w, int k) {
+            if (pinsOfKind(w, k) > 0) {
+                pins[w * KINDS + k]--;
+            }
+        }
+
         int pinsOf(int w) {
             int sum = 0;
             for (int k = 0; k < KINDS && isTold(w); k++) {
@@ -1343,7 +1352,7 @@ public final class HairpinLocks {
             }
             knowDoor(town, doors, d);
             int tenths = law.amountOf('j', MOST_TENTHS, known);
-            town.pins[w * KINDS + known[K]]--;
+            town.takePin(w, known[K]);
             if (town.draw() < tenths) {
                 town.rust[d] = Math.min(MOST_RUST, town.rust[d] + 1);
                 jammed++;
@@ -1390,7 +1399,7 @@ public final class HairpinLocks {
             known[O] = doors.behind(d, known[R]);
             known[U] = town.rust[d];
             known[K] = k;
-            known[N] = town.pins[w * KINDS + k];
+            known[N] = town.pinsOfKind(w, k);
             known[C] = Integer.bitCount(town.inRoom(known[O]));
         }
     }
@@ -1419,7 +1428,7 @@ public final class HairpinLocks {
         void spread(Doors doors, Town town, int w, int from) {
             joinRooms(doors);
             for (int k = 0; k < KINDS; k++) {
-                left[k] = town.isTold(w) ? town.pins[w * KINDS + k] : 0;
+                left[k] = town.pinsOfKind(w, k);
             }
             Arrays.fill(rooms, 0);
             used[0] = 0;
